@@ -13,6 +13,9 @@ public final class RuleTables {
     private static final int MOST_ACTIONS = 64;
     private static final int MOST_NODES = 1000;
     private static final int LONGEST_NAME = 10;
+    private static final int LETTER_BITS = 6;
+    private static final long IF = 'i' - 'a' + 1 | 'f' - 'a' + 1 << LETTER_BITS;
+    private static final long DO = 'd' - 'a' + 1 | 'o' - 'a' + 1 << LETTER_BITS;
     private static final int TEST_BYTES = 3;
     private static final int LEAF_MARK = 128;
 
@@ -27,7 +30,6 @@ public final class RuleTables {
     private Table spare;
     private boolean hasTable;
     private int latestFault;
-    private int verdict;
     private int firstAmiss;
     private int secondAmiss;
     private int caseAmiss;
@@ -55,8 +57,7 @@ public final class RuleTables {
             throw new UnsupportedOperationException("the tape would be too long");
         }
         for (int i = n - 1; i >= 0; i--) {
-            tape.bytes[tape.length] = (byte) (bytes >>> (8 * i));
-            tape.length++;
+            tape.append((int) (bytes >>> 8 * i) & 255);
         }
         return tape.length;
     }
@@ -79,8 +80,7 @@ public final class RuleTables {
         table = spare;
         spare = before;
         hasTable = true;
-        judge();
-        return verdict;
+        return judge();
     }
 
     public int fault() {
@@ -142,13 +142,14 @@ public final class RuleTables {
         if (!hasTable || k < 0 || k >= names.size) {
             throw new IndexOutOfBoundsException("no such condition or action");
         }
+        int length = names.lengthOf(k);
         if (i == NONE) {
-            return names.lengths[k];
+            return length;
         }
-        if (i < 0 || i >= names.lengths[k]) {
+        if (i < 0 || i >= length) {
             throw new IndexOutOfBoundsException("no such place in the name");
         }
-        return names.letters[k * LONGEST_NAME + i];
+        return names.byteOf(k, i);
     }
 
     public int meets(int theCase) throws IllegalStateException, IndexOutOfBoundsException {
@@ -174,14 +175,14 @@ public final class RuleTables {
         }
         switch (what) {
             case 0:
-                return tree.condition[k];
+                return tree.isLeaf(k) ? NONE : tree.heads[k];
             case 1:
                 // The nodes where a condition holds stand right behind its test.
                 return tree.isLeaf(k) ? NONE : k + 1;
             case 2:
                 return tree.otherwise[k];
             case 3:
-                return tree.action[k];
+                return tree.isLeaf(k) ? tree.heads[k] - LEAF_MARK : NONE;
             default:
                 throw new IndexOutOfBoundsException("no such what");
         }
@@ -224,25 +225,27 @@ public final class RuleTables {
         }
     }
 
-    private void judge() {
+    /** What the table is; its tree is built, if it can have one. */
+    private int judge() {
         tree.clear();
-        code.clear();
+        int verdict = findAmiss();
+        if (verdict == SOUND) {
+            tree.build(way);
+            verdict = tree.size == 0 ? TOO_BIG : SOUND;
+        }
+        code.write(tree);
+        return verdict;
+    }
+
+    private int findAmiss() {
         firstAmiss = NONE;
         secondAmiss = NONE;
-        caseAmiss = NONE;
         if (findContradiction()) {
-            verdict = CONTRADICTION;
-            return;
+            return CONTRADICTION;
         }
         way.start(table, NONE);
         caseAmiss = way.leastGap();
-        if (caseAmiss != NONE) {
-            verdict = GAP;
-            return;
-        }
-        tree.build(way);
-        code.write(tree);
-        verdict = tree.size == 0 ? TOO_BIG : SOUND;
+        return caseAmiss == NONE ? SOUND : GAP;
     }
 
     private boolean findContradiction() {
@@ -259,48 +262,59 @@ public final class RuleTables {
         return false;
     }
 
-    /** Names in the order of their numbers; each has a stretch of the same length in one row. */
+    /**
+     * Names in the order of their numbers, each in one number: six bits a letter, the first letter lowest;
+     * 1 to 26 are the letters, 27 to 36 the digits, 0 is behind the name's end.
+     */
     private static final class Names {
-        final int most;
-        final byte[] letters;
-        final int[] lengths;
+        private final long[] names;
         int size;
 
         Names(int most) {
-            this.most = most;
-            letters = new byte[most * LONGEST_NAME];
-            lengths = new int[most];
+            names = new long[most];
         }
 
-        int find(byte[] text, int from, int length) {
+        static int letterOf(int b) {
+            if (b >= 'a' && b <= 'z') {
+                return b - 'a' + 1;
+            }
+            return b >= '0' && b <= '9' ? b - '0' + 27 : 0;
+        }
+
+        int find(long name) {
             for (int k = 0; k < size; k++) {
-                if (lengths[k] == length && sameLetters(k, text, from)) {
+                if (names[k] == name) {
                     return k;
                 }
             }
             return NONE;
         }
 
-        private boolean sameLetters(int k, byte[] text, int from) {
-            for (int i = 0; i < lengths[k]; i++) {
-                if (letters[k * LONGEST_NAME + i] != text[from + i]) {
-                    return false;
-                }
+        /** Puts a name behind the others, if there is room: whether there was. */
+        boolean add(long name) {
+            if (size >= names.length) {
+                return false;
             }
+            names[size] = name;
+            size++;
             return true;
         }
 
-        boolean isFull() {
-            return size >= most;
+        private int letterAt(int k, int i) {
+            return (int) (names[k] >>> LETTER_BITS * i) & 63;
         }
 
-        /** The caller has seen that there is room, and that the name is not too long. */
-        void add(byte[] text, int from, int length) {
-            for (int i = 0; i < length; i++) {
-                letters[size * LONGEST_NAME + i] = text[from + i];
+        int lengthOf(int k) {
+            int length = 0;
+            while (length < LONGEST_NAME && letterAt(k, length) != 0) {
+                length++;
             }
-            lengths[size] = length;
-            size++;
+            return length;
+        }
+
+        int byteOf(int k, int i) {
+            int letter = letterAt(k, i);
+            return letter <= 26 ? 'a' + letter - 1 : '0' + letter - 27;
         }
     }
 
@@ -354,19 +368,32 @@ public final class RuleTables {
 
     /** The tape; it is read from the left: each pass.. method goes behind one part, or tells a fault. */
     private static final class Tape {
-        final byte[] bytes = new byte[MOST_BYTES];
+        // Eight bytes in each, the first lowest: all objects of a run share one room.
+        private final long[] words = new long[MOST_BYTES / 8];
         int length;
         private int at;
         private int nameFrom;
-        private int nameLength;
+        private long name;
         int fault;
         int faultPlace;
+
+        /** The caller has seen that there is room. */
+        void append(int b) {
+            int shift = 8 * (length & 7);
+            long others = words[length >> 3] & ~(255L << shift);
+            words[length >> 3] = others | (long) b << shift;
+            length++;
+        }
+
+        private int byteAt(int place) {
+            return (int) (words[place >> 3] >>> 8 * (place & 7)) & 255;
+        }
 
         boolean parse(Table into) {
             at = 0;
             fault = NO_FAULT;
             into.clear();
-            return passWord('i', 'f') && passConditions(into) && passRules(into);
+            return passName() && isWord(IF) && passConditions(into) && passRules(into);
         }
 
         private boolean fail(int what, int place) {
@@ -377,22 +404,14 @@ public final class RuleTables {
 
         /** Goes to the next byte that is not blank and tells it; NONE: the tape ends. */
         private int look() {
-            while (at < length && isBlank(bytes[at])) {
+            while (at < length) {
+                int b = byteAt(at);
+                if (b != 9 && b != 10 && b != 13 && b != 32) {
+                    return b;
+                }
                 at++;
             }
-            return at < length ? bytes[at] & 255 : NONE;
-        }
-
-        private static boolean isBlank(int b) {
-            return b == 9 || b == 10 || b == 13 || b == 32;
-        }
-
-        private static boolean isLetter(int b) {
-            return b >= 'a' && b <= 'z';
-        }
-
-        private static boolean isDigit(int b) {
-            return b >= '0' && b <= '9';
+            return NONE;
         }
 
         private boolean passByte(int due) {
@@ -404,24 +423,24 @@ public final class RuleTables {
         }
 
         private boolean passName() {
-            if (!isLetter(look())) {
+            int first = look();
+            if (first < 'a' || first > 'z') {
                 return fail(WRONG, at);
             }
             nameFrom = at;
-            while (at < length && (isLetter(bytes[at]) || isDigit(bytes[at]))) {
+            name = 0;
+            while (at < length && Names.letterOf(byteAt(at)) != 0) {
+                if (at - nameFrom < LONGEST_NAME) {
+                    name |= (long) Names.letterOf(byteAt(at)) << LETTER_BITS * (at - nameFrom);
+                }
                 at++;
             }
-            nameLength = at - nameFrom;
-            return nameLength <= LONGEST_NAME || fail(WRONG, nameFrom);
+            return at - nameFrom <= LONGEST_NAME || fail(WRONG, nameFrom);
         }
 
-        /** Both words of a text have two letters. */
-        private boolean passWord(int first, int second) {
-            if (!passName()) {
-                return false;
-            }
-            boolean same = nameLength == 2 && bytes[nameFrom] == first && bytes[nameFrom + 1] == second;
-            return same || fail(WRONG, nameFrom);
+        /** Whether the name just passed is the word that it must be. */
+        private boolean isWord(long word) {
+            return name == word || fail(WRONG, nameFrom);
         }
 
         private boolean passConditions(Table into) {
@@ -441,14 +460,10 @@ public final class RuleTables {
             if (!passName()) {
                 return false;
             }
-            if (conditions.find(bytes, nameFrom, nameLength) != NONE) {
+            if (conditions.find(name) != NONE) {
                 return fail(TWICE, nameFrom);
             }
-            if (conditions.isFull()) {
-                return fail(TOO_MANY, nameFrom);
-            }
-            conditions.add(bytes, nameFrom, nameLength);
-            return true;
+            return conditions.add(name) || fail(TOO_MANY, nameFrom);
         }
 
         private boolean passRules(Table into) {
@@ -478,25 +493,18 @@ public final class RuleTables {
                 no |= mark == 'N' ? 1 << c : 0;
                 at++;
             }
-            if (!passWord('d', 'o') || !passName()) {
+            if (!passName() || !isWord(DO) || !passAction(into.actions)) {
                 return false;
             }
-            int action = numberOfAction(into.actions);
-            if (action == NONE) {
-                return fail(TOO_MANY, nameFrom);
-            }
-            into.add(yes, no, action);
+            into.add(yes, no, into.actions.find(name));
             return passByte(';');
         }
 
-        /** The action of the name just passed, a new one where need be; NONE: there is no room for it. */
-        private int numberOfAction(Names actions) {
-            int known = actions.find(bytes, nameFrom, nameLength);
-            if (known != NONE || actions.isFull()) {
-                return known;
+        private boolean passAction(Names actions) {
+            if (!passName()) {
+                return false;
             }
-            actions.add(bytes, nameFrom, nameLength);
-            return actions.size - 1;
+            return actions.find(name) != NONE || actions.add(name) || fail(TOO_MANY, nameFrom);
         }
     }
 
@@ -508,7 +516,7 @@ public final class RuleTables {
         private final int[] yes = new int[MOST_RULES];
         private final int[] no = new int[MOST_RULES];
         private final int[] action = new int[MOST_RULES];
-        private int allOpen;
+        int allOpen;
         private final int[][] lists = new int[MOST_CONDITIONS + 1][MOST_RULES];
         private final int[] sizes = new int[MOST_CONDITIONS + 1];
         private final int[] blanks = new int[MOST_CONDITIONS];
@@ -528,10 +536,6 @@ public final class RuleTables {
                 }
             }
             sizes[0] = size;
-        }
-
-        int allOpen() {
-            return allOpen;
         }
 
         /** Makes the place one deeper: where the condition of a bit holds, or does not. */
@@ -667,9 +671,10 @@ public final class RuleTables {
 
     /** The nodes of a tree in their order; size 0: there is no tree. */
     private static final class Tree {
-        final int[] condition = new int[MOST_NODES];
+        // With which byte the code of each node begins: a condition, or LEAF_MARK and an action.
+        final int[] heads = new int[MOST_NODES];
+        // The node where the condition does not hold; NONE: a leaf.
         final int[] otherwise = new int[MOST_NODES];
-        final int[] action = new int[MOST_NODES];
         int size;
         int leaves;
         int mostTests;
@@ -685,13 +690,13 @@ public final class RuleTables {
         }
 
         boolean isLeaf(int k) {
-            return condition[k] == NONE;
+            return otherwise[k] == NONE;
         }
 
         /** The way stands at its first place, with all rules of a sound table. */
         void build(Way way) {
             clear();
-            grow(this, way, 0, way.allOpen());
+            grow(this, way, 0, way.allOpen);
             if (tooBig) {
                 clear();
             }
@@ -710,7 +715,8 @@ public final class RuleTables {
             }
             int c = way.choose(depth, open);
             int bit = 1 << c;
-            int k = tree.addTest(c);
+            int k = tree.size;
+            tree.addNode(c);
             // Every case that agrees with the way comes to this test.
             tree.allTests += 1L << Integer.bitCount(open);
             way.step(depth, bit, true);
@@ -720,54 +726,52 @@ public final class RuleTables {
             grow(tree, way, depth + 1, open & ~bit);
         }
 
-        private void addLeaf(int itsAction, int depth) {
-            condition[size] = NONE;
-            otherwise[size] = NONE;
-            action[size] = itsAction;
-            size++;
+        private void addLeaf(int action, int depth) {
+            addNode(LEAF_MARK + action);
             leaves++;
             mostTests = Math.max(mostTests, depth);
         }
 
-        private int addTest(int itsCondition) {
-            condition[size] = itsCondition;
+        /** The caller has seen that there is room. */
+        private void addNode(int head) {
+            heads[size] = head;
             otherwise[size] = NONE;
-            action[size] = NONE;
             size++;
-            return size - 1;
         }
     }
 
     /** The code of a tree; length 0: there is none. */
     private static final class Code {
-        final int[] bytes = new int[MOST_NODES * TEST_BYTES];
+        // A tree has one leaf more than it has tests, so there are fewer than two bytes a node.
+        final int[] bytes = new int[2 * MOST_NODES];
         private final int[] places = new int[MOST_NODES];
         int length;
 
-        void clear() {
-            length = 0;
-        }
-
         void write(Tree tree) {
             setPlaces(tree);
+            length = 0;
             for (int k = 0; k < tree.size; k++) {
-                int place = places[k];
-                if (tree.isLeaf(k)) {
-                    bytes[place] = LEAF_MARK + tree.action[k];
-                } else {
-                    int otherwise = places[tree.otherwise[k]];
-                    bytes[place] = tree.condition[k];
-                    bytes[place + 1] = otherwise >> 8;
-                    bytes[place + 2] = otherwise & 255;
+                append(tree.heads[k]);
+                if (!tree.isLeaf(k)) {
+                    int place = places[tree.otherwise[k]];
+                    append(place >> 8);
+                    append(place & 255);
                 }
             }
         }
 
         private void setPlaces(Tree tree) {
-            length = 0;
+            int place = 0;
             for (int k = 0; k < tree.size; k++) {
-                places[k] = length;
-                length += tree.isLeaf(k) ? 1 : TEST_BYTES;
+                places[k] = place;
+                place += tree.isLeaf(k) ? 1 : TEST_BYTES;
+            }
+        }
+
+        private void append(int b) {
+            if (length < bytes.length) {
+                bytes[length] = b;
+                length++;
             }
         }
 
@@ -775,7 +779,7 @@ public final class RuleTables {
         int follow(int theCase, boolean wantsTests) {
             int place = 0;
             int done = 0;
-            while (done < MOST_CONDITIONS && place < length && bytes[place] < LEAF_MARK) {
+            while (done < MOST_CONDITIONS && place + 2 < length && bytes[place] < LEAF_MARK) {
                 boolean holds = (theCase >> bytes[place] & 1) != 0;
                 place = holds ? place + TEST_BYTES : bytes[place + 1] << 8 | bytes[place + 2];
                 done++;
