@@ -44,9 +44,6 @@ public final class RuleTables {
         way = new Way();
         tree = new Tree();
         code = new Code();
-        firstAmiss = NONE;
-        secondAmiss = NONE;
-        caseAmiss = NONE;
     }
 
     public int type(long bytes, int n) throws IllegalArgumentException, UnsupportedOperationException {
@@ -693,9 +690,8 @@ public final class RuleTables {
             return otherwise[k] == NONE;
         }
 
-        /** The way stands at its first place, with all rules of a sound table. */
+        /** Builds a tree where there is none; the way stands at its first place, with all rules of a sound table. */
         void build(Way way) {
-            clear();
             grow(this, way, 0, way.allOpen);
             if (tooBig) {
                 clear();
