@@ -53,6 +53,12 @@ final class Check {
         }), exception);
     }
 
+    /** A call that answers something, whatever it is. */
+    static void answers(String what, Call call) {
+        String got = answerOf(call);
+        same(what, got.endsWith("Exception") ? got : "an answer", "an answer");
+    }
+
     /** Types a text, eight bytes a call where there are so many. */
     static void type(RuleTables x, String text) {
         for (int from = 0; from < text.length(); from += 8) {
@@ -79,6 +85,20 @@ final class Check {
         RuleTables x = new RuleTables();
         read(x, text);
         return x;
+    }
+
+    /** A new object reads a text: what the table is. */
+    static void verdict(String what, int due, String text) {
+        due(what + ": read() of " + text, due, () -> read(new RuleTables(), text));
+    }
+
+    /** A new object reads a text with a fault. */
+    static void faulty(String what, int code, int place, String text) {
+        RuleTables x = new RuleTables();
+        due(what + ": read() of " + text, -1 - place, () -> read(x, text));
+        due(what + ": fault() after " + text, code, () -> x.fault());
+        due(what + ": the tape after " + text, 0, () -> x.count(7));
+        due(what + ": conditions after " + text, 0, () -> x.count(0));
     }
 
     static void end() {

@@ -46,15 +46,28 @@ final class Formula {
         return all;
     }
 
+    /** A table with two actions, where a formula holds and where it does not. */
+    static String table(String formula) {
+        Rules f = new Formula(formula).next();
+        StringBuilder text = head(f.conditions);
+        write(text, f.yes, "w");
+        write(text, f.no, "x");
+        return text.toString();
+    }
+
+    private static StringBuilder head(int conditions) {
+        StringBuilder text = new StringBuilder("if a");
+        for (int c = 1; c < conditions; c++) {
+            text.append(',').append((char) ('a' + c));
+        }
+        return text.append(';');
+    }
+
     /** A table with an action for each of the four ways in which two formulas can hold or not. */
     static String table(String first, String second) {
         Rules f = new Formula(first).next();
         Rules g = new Formula(second).next();
-        StringBuilder text = new StringBuilder("if a");
-        for (int c = 1; c < f.conditions + g.conditions; c++) {
-            text.append(',').append((char) ('a' + c));
-        }
-        text.append(';');
+        StringBuilder text = head(f.conditions + g.conditions);
         write(text, both(f.yes, g.yes), "w");
         write(text, both(f.yes, g.no), "x");
         write(text, both(f.no, g.yes), "y");

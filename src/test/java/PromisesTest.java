@@ -164,7 +164,7 @@ public final class PromisesTest {
     }
 
     private static void verdict(int due, String text) {
-        Check.due("4 " + text, due, () -> Check.read(new RuleTables(), text));
+        Check.verdict("4", due, text);
     }
 
     private static void promise4Verdicts() {
@@ -202,10 +202,7 @@ public final class PromisesTest {
     }
 
     private static void faulty(int code, int place, String text) {
-        RuleTables x = new RuleTables();
-        Check.due("4 " + text, -1 - place, () -> Check.read(x, text));
-        Check.due("5 " + text, code, () -> x.fault());
-        Check.due("4 no table from " + text, 0, () -> x.count(0));
+        Check.faulty("4 and 5", code, place, text);
     }
 
     private static void faultsOfTheHead() {
