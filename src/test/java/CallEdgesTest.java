@@ -465,6 +465,15 @@ public final class CallEdgesTest {
         RuleTables twice = Check.table("if a;-do x;Ydo y;-do x;Ydo y;");
         Check.due("11 a case that two rules meet", 2, () -> twice.cases(0));
         Check.due("11 a case that two actions have", 1, () -> twice.cases(1));
+        // The last two rules meet no case that is not met already.
+        RuleTables some = Check.table("if a,b,c;Y--do x;-Y-do x;NNYdo y;YYYdo x;YYNdo x;");
+        Check.due("11 the cases of two rules that overlap", 6, () -> some.cases(0));
+        Check.due("11 the case of one rule", 1, () -> some.cases(1));
+        Check.due("11 k NONE: by none", 1, () -> some.cases(NONE));
+        RuleTables parts = Check.table("if a,b,c,d;YN--do x;NY--do x;--YNdo y;--NYdo y;");
+        Check.due("11 rules that do not overlap", 8, () -> parts.cases(0));
+        Check.due("11 rules that do not overlap", 8, () -> parts.cases(1));
+        Check.due("11 k NONE: by none", 4, () -> parts.cases(NONE));
         RuleTables full = Check.table("if q;" + manyActions());
         edges(s + ", of 64 actions", NONE, 64, full::cases);
     }

@@ -143,6 +143,9 @@ public final class TableEdgesTest {
         amiss(s, "if a;Ndo x;", NONE, NONE, 1);
         amiss(s + ", of 1 and 6", "if a,b,c;NN-do x;YY-do x;YNYdo y;NYNdo y;", NONE, NONE, 1);
         amiss(s + ", of 3 and 4", "if a,b,c;-NNdo x;NYNdo x;Y-Ydo y;-YYdo y;", NONE, NONE, 3);
+        // The last rule leaves c open, the others do not.
+        amiss(s + ", of 2 and 4", "if a,b,c;NNNdo x;YNNdo x;YNYdo x;NYYdo x;YY-do x;", NONE, NONE, 2);
+        amiss(s + ", of 2 and 4", "if a,b,c;YY-do x;NYYdo x;YNYdo x;YNNdo x;NNNdo x;", NONE, NONE, 2);
         amiss(s + ", of 6 and 7", "if a,b,c;-N-do x;-YNdo y;", NONE, NONE, 6);
         amiss(s + ", the last of 16 conditions", SIXTEEN + "-".repeat(15) + "Ndo x;", NONE, NONE, 32768);
         amiss(s + ", the first of 16 conditions", SIXTEEN + "N" + "-".repeat(15) + "do x;", NONE, NONE, 1);

@@ -31,6 +31,7 @@ public final class TextEdgesTest {
         action65();
         firstFromTheLeft();
         severalAtOnePlace();
+        anyByteAtTheLimits();
         Check.end();
     }
 
@@ -428,6 +429,23 @@ public final class TextEdgesTest {
         Check.faulty(s + ": the 257th rule, then the 65th action", 3, full.length(), full + "-do x;");
         String fewer = actions + "-do a0;".repeat(191);
         Check.faulty(s + ": the 65th action, then the 257th rule", 3, fewer.length() + 4, fewer + "-do x;-do y;");
+    }
+
+    private static void anyByteAtTheLimits() {
+        String s = "1 or 3 where the 17th condition, the 257th rule, the 65th action would begin";
+        String rules = rules(256, "--do x;");
+        String actions = actions(64) + "-do ";
+        for (int b = 0; b < 256; b++) {
+            char it = (char) b;
+            int skipped = isBlank(b) ? 1 : 0;
+            Check.faulty(s, isLetter(b) && b > 'p' ? 3 : isLetter(b) ? 2 : 1, SIXTEEN.length() + 1 + skipped, SIXTEEN + "," + it);
+            Check.faulty(s, isLetter(b) ? 3 : 1, actions.length() + skipped, actions + it);
+            if (isBlank(b)) {
+                Check.verdict(s, RuleTables.SOUND, rules + it);
+            } else {
+                Check.faulty(s, it == 'Y' || it == 'N' || it == '-' ? 3 : 1, rules.length(), rules + it);
+            }
+        }
     }
 
     private static void severalAtOnePlace() {
